@@ -253,7 +253,7 @@ public final class BoxIntegrals {
     private void settle(int box) {
         formulas.enclose(needed, tiling.sides, Tiling.place(box, 0));
         tiling.kinds[box] = kindNow();
-        tiling.tight[box] = tiling.isTight(box);
+        tiling.measure(box);
         weigh(box);
     }
 
@@ -280,13 +280,13 @@ public final class BoxIntegrals {
         return node != NONE && !Reals.isBelow(Reals.ZERO, formulas.highs[node]);
     }
 
+    /** The BOX has been measured, and its DENSITIES enclosed, just before. */
     private void weigh(int box) {
         long low = Reals.ONE;
         long high = Reals.ONE;
         for (int d = 0; d < draws; d++) {
-            long width = tiling.width(box, d);
-            low = Reals.lowTimes(low, Reals.down(width));
-            high = Reals.highTimes(high, Reals.up(width));
+            low = Reals.lowTimes(low, Reals.down(tiling.widths[d]));
+            high = Reals.highTimes(high, Reals.up(tiling.widths[d]));
             int density = roles[DENSITY + d];
             if (density != NONE) {
                 low = Reals.lowTimes(low, formulas.lows[density]);
@@ -421,7 +421,7 @@ public final class BoxIntegrals {
                 case SUM:
                     return Reals.plus(a, b);
                 case DIFFERENCE:
-                    return Reals.minus(a, b);
+                    return Reals.plus(a, Reals.opposite(b));
                 case PRODUCT:
                     return Reals.times(a, b);
                 case QUOTIENT:
@@ -445,9 +445,9 @@ public final class BoxIntegrals {
                 case SIGNUM:
                     return Reals.signum(a);
                 case INT:
-                    return Reals.throughInt(a);
+                    return Reals.cut(a, Reals.LEAST_INT, Reals.GREATEST_INT);
                 default:
-                    return Reals.throughLong(a);
+                    return Reals.cut(a, Reals.LEAST_LONG, Reals.GREATEST_LONG);
             }
         }
 
@@ -477,7 +477,8 @@ public final class BoxIntegrals {
                     put(i, Reals.down(Reals.plus(al, bl)), Reals.up(Reals.plus(ah, bh)));
                     break;
                 case DIFFERENCE:
-                    put(i, Reals.down(Reals.minus(al, bh)), Reals.up(Reals.minus(ah, bl)));
+                    put(i, Reals.down(Reals.plus(al, Reals.opposite(bh))),
+                            Reals.up(Reals.plus(ah, Reals.opposite(bl))));
                     break;
                 case PRODUCT:
                     putFour(i, Reals.times(al, bl), Reals.times(al, bh),
@@ -564,8 +565,11 @@ public final class BoxIntegrals {
         final long[] lows;
         final long[] highs;
         final int[] kinds;
-        final boolean[] tight;
+        final long[] widths;
         int size;
+        private final int[] cutDraws;
+        private final long[] middles;
+        private final boolean[] tight;
         private int draws;
 
         Tiling() {
@@ -573,6 +577,9 @@ public final class BoxIntegrals {
             lows = new long[MOST_BOXES];
             highs = new long[MOST_BOXES];
             kinds = new int[MOST_BOXES];
+            widths = new long[MOST_DRAWS];
+            cutDraws = new int[MOST_BOXES];
+            middles = new long[MOST_BOXES];
             tight = new boolean[MOST_BOXES];
             size = 0;
             draws = 0;
@@ -598,46 +605,32 @@ public final class BoxIntegrals {
             size = 0;
         }
 
-        long width(int box, int draw) {
-            int at = place(box, draw);
-            return Reals.minus(sides[at + 1], sides[at]);
-        }
-
-        private int widest(int box) {
-            int best = 0;
-            long most = width(box, 0);
-            for (int d = 1; d < draws; d++) {
-                long width = width(box, d);
-                if (Reals.isBelow(most, width)) {
-                    best = d;
-                    most = width;
+        /** Finds where a BOX would be cut, once for all the STEPS that ask for it. */
+        void measure(int box) {
+            int widest = 0;
+            for (int d = 0; d < draws; d++) {
+                int at = place(box, d);
+                widths[d] = Reals.plus(sides[at + 1], Reals.opposite(sides[at]));
+                if (Reals.isBelow(widths[widest], widths[d])) {
+                    widest = d;
                 }
             }
-            return best;
-        }
-
-        private long middle(int box, int draw) {
-            long half = Reals.over(width(box, draw), Reals.TWO);
-            return Reals.plus(sides[place(box, draw)], half);
-        }
-
-        boolean isTight(int box) {
-            int draw = widest(box);
-            int at = place(box, draw);
-            long m = middle(box, draw);
-            return !Reals.isBelow(sides[at], m) || !Reals.isBelow(m, sides[at + 1]);
+            long lo = sides[place(box, widest)];
+            long hi = sides[place(box, widest) + 1];
+            long m = Reals.plus(lo, Reals.over(widths[widest], Reals.TWO));
+            cutDraws[box] = widest;
+            middles[box] = m;
+            tight[box] = !Reals.isBelow(lo, m) || !Reals.isBelow(m, hi);
         }
 
         /** Cuts a BOX, while there is room for one more; the new one's number. */
         int split(int box) {
             int other = size;
-            int draw = widest(box);
-            long m = middle(box, draw);
             for (int i = 0; i < SIDE_ENDS; i++) {
                 sides[place(other, 0) + i] = sides[place(box, 0) + i];
             }
-            sides[place(box, draw) + 1] = m;
-            sides[place(other, draw)] = m;
+            sides[place(box, cutDraws[box]) + 1] = middles[box];
+            sides[place(other, cutDraws[box])] = middles[box];
             size++;
             return other;
         }
@@ -720,6 +713,11 @@ public final class BoxIntegrals {
         static final long TWO = 0x4000000000000000L;
         static final long INFINITE = 0x7ff0000000000000L;
         static final long MINUS_INFINITE = 0xfff0000000000000L;
+        static final long LEAST_INT = 0xc1e0000000000000L;
+        static final long GREATEST_INT = 0x41dfffffffc00000L;
+        static final long LEAST_LONG = 0xc3e0000000000000L;
+        // the greatest long is no double: it becomes the power of two behind it
+        static final long GREATEST_LONG = 0x43e0000000000000L;
 
         private static final long MINUS_ONE = 0xbff0000000000000L;
         private static final long NO_NUMBER = 0x7ff8000000000000L;
@@ -728,10 +726,6 @@ public final class BoxIntegrals {
         private static final long LEADING = 0x0010000000000000L;
         private static final long BELOW_LEADING = 0x000fffffffffffffL;
         private static final long TWO_TO_128 = 0x47f0000000000000L;
-        private static final long LEAST_INT = 0xc1e0000000000000L;
-        private static final long GREATEST_INT = 0x41dfffffffc00000L;
-        private static final long LEAST_LONG = 0xc3e0000000000000L;
-        private static final long GREATEST_LONG = 0x43e0000000000000L;
 
         private static final int LONG_BITS = 64;
         private static final int FRACTION_BITS = 53;
@@ -902,10 +896,6 @@ public final class BoxIntegrals {
             return m == n ? ZERO : packed(big & SIGN, scale, m - n);
         }
 
-        static long minus(long a, long b) {
-            return plus(a, opposite(b));
-        }
-
         static long times(long a, long b) {
             if (isNone(a) || isNone(b)) {
                 return NO_NUMBER;
@@ -1051,16 +1041,8 @@ public final class BoxIntegrals {
             return a & SIGN | (size >= TWO_TO_128 ? INFINITE : size);
         }
 
-        static long throughInt(long a) {
-            return cut(a, LEAST_INT, GREATEST_INT);
-        }
-
-        /** The greatest long is, as a double, the next power of two. */
-        static long throughLong(long a) {
-            return cut(a, LEAST_LONG, GREATEST_LONG);
-        }
-
-        private static long cut(long a, long least, long greatest) {
+        /** To a whole number and back: what lies beyond the ends becomes the end, no number 0. */
+        static long cut(long a, long least, long greatest) {
             if (isNone(a) || scale(a) < BIAS) {
                 return ZERO;
             }

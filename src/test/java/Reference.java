@@ -208,25 +208,26 @@ final class Reference {
         box.high = Double.isNaN(high) ? INF : high;
     }
 
+    /** All NODES up to one, in order: asked one from another, shared parts would be worked over and over. */
     private double[] enclosure(Box box, int node) {
-        double[] ends = roughly(box, nodes.get(node));
-        for (double end : ends) {
-            if (Double.isNaN(end)) {
-                return new double[] {-INF, INF};
-            }
+        double[][] known = new double[node + 1][];
+        for (int i = 0; i <= node; i++) {
+            double[] ends = roughly(box, nodes.get(i), known);
+            boolean isNone = Double.isNaN(ends[0]) || Double.isNaN(ends[1]);
+            known[i] = isNone ? new double[] {-INF, INF} : ends;
         }
-        return ends;
+        return known[node];
     }
 
-    private double[] roughly(Box box, Node node) {
+    private double[] roughly(Box box, Node node, double[][] known) {
         if (node.kind == 0) {
             return new double[] {box.lo[node.a], box.hi[node.a]};
         }
         if (node.kind == 1) {
             return new double[] {node.number, node.number};
         }
-        double[] a = enclosure(box, node.a);
-        double[] b = node.kind < 8 ? enclosure(box, node.b) : a;
+        double[] a = known[node.a];
+        double[] b = node.kind < 8 ? known[node.b] : a;
         switch (node.kind) {
             case 2:
                 return new double[] {Math.nextDown(a[0] + b[0]), Math.nextUp(a[1] + b[1])};
@@ -308,14 +309,13 @@ final class Reference {
     }
 
     private double valueAt(int node, double[] point) {
-        Node it = nodes.get(node);
-        if (it.kind == 0) {
-            return point[it.a];
+        double[] known = new double[node + 1];
+        for (int i = 0; i <= node; i++) {
+            Node it = nodes.get(i);
+            known[i] = it.kind == 0 ? point[it.a] : it.kind == 1 ? it.number
+                : made(it.kind, known[it.a], it.kind < 8 ? known[it.b] : 0.0);
         }
-        if (it.kind == 1) {
-            return it.number;
-        }
-        return made(it.kind, valueAt(it.a, point), it.kind < 8 ? valueAt(it.b, point) : 0.0);
+        return known[node];
     }
 
     private static double[] point(long x, long y, long z) {
