@@ -18,6 +18,14 @@ final class Checks {
         due(what, so ? 1 : 0, 1);
     }
 
+    int made() {
+        return made;
+    }
+
+    int wrong() {
+        return wrong;
+    }
+
     /** Ends the program: with exit code 1, if an answer was wrong. */
     void end(String name) {
         System.out.println(name + ": " + made + " checks, " + wrong + " wrong");

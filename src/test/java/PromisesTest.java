@@ -1,15 +1,5 @@
 /** Promise by promise, with answers worked out by hand from the document: ordinary, edges, wrong inputs, order of refusals. */
-final class PromisesTest {
-    private static final Checks CHECKS = new Checks();
-    private static final int UNKNOWN = -1;
-    private static final int OUTSIDE = -2;
-    private static final int STATE = -3;
-    private static final int FULL = -4;
-    private static final int NONE = -5;
-    private static final double INF = Double.POSITIVE_INFINITY;
-    private static final double NAN = Double.NaN;
-    private static final double TINY = Double.MIN_VALUE;
-    private static final double MOST = Double.MAX_VALUE;
+final class PromisesTest extends TestBase {
     private static final int[] WRONG_NUMBERS = {-1, -2, -5, 1000, Integer.MIN_VALUE, Integer.MAX_VALUE};
 
     public static void main(String[] args) {
@@ -33,68 +23,7 @@ final class PromisesTest {
         share();
         count();
         clear();
-        CHECKS.end("PromisesTest");
-    }
-
-    private static long b(double number) {
-        return Double.doubleToLongBits(number);
-    }
-
-    private static double up(double number, int times) {
-        double moved = number;
-        for (int i = 0; i < times; i++) {
-            moved = Math.nextUp(moved);
-        }
-        return moved;
-    }
-
-    private static double down(double number, int times) {
-        return -up(-number, times);
-    }
-
-    private static void due(String what, long got, long want) {
-        CHECKS.due(what, got, want);
-    }
-
-    private static void dueNumber(String what, long got, double want) {
-        due(what, got, b(want));
-    }
-
-    private static void dueThrownSide(BoxIntegrals x, int box, int draw, int end) {
-        boolean thrown = false;
-        try {
-            x.side(box, draw, end);
-        } catch (ArrayIndexOutOfBoundsException e) {
-            // the machine's own has a text
-            thrown = e.getClass() == ArrayIndexOutOfBoundsException.class && e.getMessage() == null;
-        }
-        CHECKS.holds("side(" + box + ", " + draw + ", " + end + ") throws", thrown);
-    }
-
-    private static void dueThrownShare(BoxIntegrals x, int kind) {
-        boolean thrown = false;
-        try {
-            x.share(kind);
-        } catch (ArithmeticException e) {
-            thrown = e.getClass() == ArithmeticException.class && e.getMessage() == null;
-        }
-        CHECKS.holds("share(" + kind + ") throws", thrown);
-    }
-
-    /** DRAW 0 from lo to hi, and NODE 0 that is it. */
-    private static BoxIntegrals drawn(double lo, double hi) {
-        BoxIntegrals x = new BoxIntegrals();
-        due("first draw", x.draw(b(lo), b(hi)), 0);
-        due("first node", x.node(0, 0, 0, 0L), 0);
-        return x;
-    }
-
-    private static int number(BoxIntegrals x, double number) {
-        return x.node(1, 99, -99, b(number));
-    }
-
-    private static int of(BoxIntegrals x, int kind, int a, int b) {
-        return x.node(kind, a, b, 77L);
+        end("PromisesTest");
     }
 
     // promise 1
@@ -437,11 +366,6 @@ final class PromisesTest {
         dueNumber("a width without end", wide.weight(0, 1), INF);
     }
 
-    private static void dueEnds(String what, BoxIntegrals x, int node, double low, double high) {
-        dueNumber(what + ", low", x.enclosed(0, node, 0), low);
-        dueNumber(what + ", high", x.enclosed(0, node, 1), high);
-    }
-
     // promise 11
     private static void enclosed() {
         BoxIntegrals x = drawn(-3.0, 2.0);
@@ -689,9 +613,9 @@ final class PromisesTest {
         one.role(1, of(one, 3, 0, number(one, 0.25)));
         one.begin();
         one.run(40);
-        CHECKS.holds("three quarters lie between", Double.longBitsToDouble(one.odds(0)) < 0.75
+        holds("three quarters lie between", Double.longBitsToDouble(one.odds(0)) < 0.75
             && Double.longBitsToDouble(one.odds(1)) > 0.75);
-        CHECKS.holds("and are near", Double.longBitsToDouble(one.odds(1)) - Double.longBitsToDouble(one.odds(0)) < 1e-5);
+        holds("and are near", Double.longBitsToDouble(one.odds(1)) - Double.longBitsToDouble(one.odds(0)) < 1e-5);
     }
 
     // promise 17
@@ -716,7 +640,7 @@ final class PromisesTest {
         int open = count(x, 3);
         due("YES", x.share(1), count(x, 1) / open);
         due("NO", x.share(2), count(x, 2) / open);
-        CHECKS.holds("some are more than the OPEN ones", count(x, 1) > open);
+        holds("some are more than the OPEN ones", count(x, 1) > open);
         due("OUT", x.share(0), 0);
     }
 
