@@ -2,7 +2,10 @@ import java.io.IOException;
 import java.nio.charset.StandardCharsets;
 import java.nio.file.Files;
 import java.nio.file.Path;
+import java.util.HashMap;
+import java.util.Map;
 import java.util.Set;
+import java.util.TreeSet;
 import java.util.regex.Matcher;
 import java.util.regex.Pattern;
 
@@ -11,6 +14,11 @@ final class LanguageTest {
     private static final Checks CHECKS = new Checks();
     private static final Path FILE = Path.of("src/main/java/BoxIntegrals.java");
     private static final int LONGEST_METHOD = 60;
+    private static final int DEEPEST_CALL = 8;
+    private static final int NO_END = 1000;
+    private static final Pattern CLASS = Pattern.compile("^ *[\\w ]*\\bclass (\\w+) \\{$");
+    private static final Pattern HEAD = Pattern.compile("^( {4}| {8})[\\w\\[\\] ]*?\\b(\\w+)\\(.*\\{$");
+    private static final Pattern CALL = Pattern.compile("(?:\\b(\\w+)\\.)?\\b(\\w+)\\(");
     private static final Set<String> LIBRARY = Set.of("Math.max", "Long.numberOfLeadingZeros");
     private static final String[] FORBIDDEN = {"double", "float", "try", "catch", "finally", "import", "package",
         "synchronized", "assert", "while", "Double", "Float", "Object", "String", "System", "protected", "strictfp"};
@@ -27,6 +35,7 @@ final class LanguageTest {
         library(code);
         madeAndThrown(code);
         lengths(text);
+        depths(code);
         CHECKS.end("LanguageTest");
     }
 
@@ -72,5 +81,57 @@ final class LanguageTest {
                 begun = -1;
             }
         }
+    }
+
+    /** Rule 11: calls that stand open at once, from one of the face down; a way round would have no end. */
+    private static void depths(String code) {
+        Map<String, Set<String>> calls = callsByMethod(code);
+        CHECKS.holds("methods are found", calls.size() > 80 && calls.containsKey("Reals.packed"));
+        for (String method : calls.keySet()) {
+            int deep = depth(method, calls, 0);
+            CHECKS.holds(method + " goes " + deep + " deep", deep <= DEEPEST_CALL);
+        }
+        CHECKS.holds("the deepest is found", depth("BoxIntegrals.run", calls, 0) > 5);
+    }
+
+    private static Map<String, Set<String>> callsByMethod(String code) {
+        Map<String, Set<String>> found = new HashMap<>();
+        String type = "";
+        String method = "";
+        for (String line : code.split("\n")) {
+            Matcher begun = CLASS.matcher(line);
+            Matcher head = HEAD.matcher(line);
+            if (begun.find()) {
+                type = begun.group(1);
+            } else if (head.find() && !head.group(2).matches("if|for|switch")) {
+                method = type + "." + head.group(2);
+                found.put(method, new TreeSet<>());
+            } else if (found.containsKey(method)) {
+                Matcher call = CALL.matcher(line);
+                while (call.find()) {
+                    found.get(method).add(owner(call.group(1), type) + "." + call.group(2));
+                }
+            }
+        }
+        return found;
+    }
+
+    private static String owner(String before, String type) {
+        return before == null ? type : before.substring(0, 1).toUpperCase() + before.substring(1);
+    }
+
+    /** How many calls stand open at once; what is not of the class (a call of the library, a word) ends there. */
+    private static int depth(String method, Map<String, Set<String>> calls, int above) {
+        if (!calls.containsKey(method)) {
+            return method.matches("(Math|Long)\\.\\w+") ? 1 : 0;
+        }
+        if (above > DEEPEST_CALL + 2) {
+            return NO_END;
+        }
+        int deepest = 0;
+        for (String called : calls.get(method)) {
+            deepest = Math.max(deepest, depth(called, calls, above + 1));
+        }
+        return deepest + 1;
     }
 }

@@ -15,11 +15,13 @@ final class ReferenceTest {
     private final BoxIntegrals real = new BoxIntegrals();
     private final Reference plain = new Reference();
     private final boolean wild;
+    private final boolean staged;
     private int calls = 0;
 
     private ReferenceTest(long seed) {
         random = new Random(seed);
         wild = random.nextInt(4) == 0;
+        staged = random.nextInt(3) == 0;
     }
 
     public static void main(String[] args) {
@@ -33,8 +35,22 @@ final class ReferenceTest {
         int most = random.nextInt(4) == 0 ? MOST_CALLS : 40 + random.nextInt(120);
         while (calls < most) {
             calls++;
-            call(random.nextInt(100));
+            call(staged ? stagedChoice() : random.nextInt(100));
         }
+    }
+
+    /** DRAWS, NODES, roles, then a RUN that nothing ends: mixed at random, few RUNS grow long under many roles. */
+    private int stagedChoice() {
+        if (calls <= 4) {
+            return 0;
+        }
+        if (calls <= 34) {
+            return 6;
+        }
+        if (calls <= 40) {
+            return 30;
+        }
+        return calls == 41 ? 38 : 46 + random.nextInt(53);
     }
 
     private void call(int choice) {
